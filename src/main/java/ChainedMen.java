@@ -52,7 +52,7 @@ public final class ChainedMen {
         for (int k = 0; k < MOST_KEPT; k++) {
             kept[k] = new Course();
         }
-        rules.yard = yard;
+        changeRules();
     }
 
     // ---- 1 rows, texts, yards
@@ -81,11 +81,9 @@ public final class ChainedMen {
     }
 
     public int tear(int r) {
-        if (!rows.knows(r)) {
-            return BAD;
-        }
-        if (!rows.holds(r)) {
-            return found(NOTHING);
+        int refused = refusedMissing(rows, r);
+        if (refused != FINE) {
+            return refused;
         }
         rows.drop(r);
         return 1;
@@ -109,11 +107,9 @@ public final class ChainedMen {
     }
 
     public int mean(int r) {
-        if (!rows.knows(r)) {
-            return BAD;
-        }
-        if (!rows.holds(r)) {
-            return found(NOTHING);
+        int refused = refusedMissing(rows, r);
+        if (refused != FINE) {
+            return refused;
         }
         int n = rows.size(r);
         if (n <= 0) {
@@ -142,21 +138,14 @@ public final class ChainedMen {
     }
 
     public int fault(int t) {
-        if (!texts.knows(t)) {
-            return BAD;
-        }
-        if (!texts.holds(t)) {
-            return found(NOTHING);
-        }
-        return reader.read(texts, t, draft);
+        int refused = refusedMissing(texts, t);
+        return refused != FINE ? refused : reader.read(texts, t, draft);
     }
 
     public int yard(int t) {
-        if (!texts.knows(t)) {
-            return BAD;
-        }
-        if (!texts.holds(t)) {
-            return found(NOTHING);
+        int refused = refusedMissing(texts, t);
+        if (refused != FINE) {
+            return refused;
         }
         if (reader.read(texts, t, draft) != NONE) {
             return STATE;
@@ -460,10 +449,7 @@ public final class ChainedMen {
         if (!rows.knows(r)) {
             return BAD;
         }
-        if (yard.men == 0) {
-            return STATE;
-        }
-        int refused = refusedKeys(r);
+        int refused = yard.men == 0 ? STATE : refusedKeys(r);
         return refused != FINE ? refused : fewestKeys(r, closedChains());
     }
 
@@ -476,14 +462,9 @@ public final class ChainedMen {
     }
 
     public int filed(int r) {
-        if (!rows.knows(r)) {
-            return BAD;
-        }
-        if (yard.men == 0) {
-            return STATE;
-        }
-        if (!rows.holds(r)) {
-            return found(NOTHING);
+        int refused = refusedWithMen(r, r);
+        if (refused != FINE) {
+            return refused;
         }
         int size = rows.size(r);
         if (size % yard.men != 0 || size / yard.men > MOST_SEEN) {
@@ -503,14 +484,9 @@ public final class ChainedMen {
     }
 
     public int judge(int r) {
-        if (!rows.knows(r)) {
-            return BAD;
-        }
-        if (yard.men == 0) {
-            return STATE;
-        }
-        if (!rows.holds(r)) {
-            return found(NOTHING);
+        int refused = refusedWithMen(r, r);
+        if (refused != FINE) {
+            return refused;
         }
         int size = rows.size(r);
         for (int n = 0; n < size; n++) {
@@ -715,25 +691,36 @@ public final class ChainedMen {
         return n;
     }
 
-    private int refusedPlace(Shelf shelf, int r, int i) {
+    private int refusedMissing(Shelf shelf, int r) {
         if (!shelf.knows(r)) {
             return BAD;
         }
-        if (!shelf.holds(r)) {
-            return found(NOTHING);
+        return shelf.holds(r) ? FINE : found(NOTHING);
+    }
+
+    private int refusedPlace(Shelf shelf, int r, int i) {
+        int refused = refusedMissing(shelf, r);
+        if (refused != FINE) {
+            return refused;
         }
         return shelf.has(r, i, 1) ? FINE : found(BEYOND);
     }
 
-    private int refusedAim(int r, int to) {
+    /** What refuses a ROW that is read with MEN in mind, and one to which the answer comes. */
+    private int refusedWithMen(int r, int to) {
         if (!rows.knows(r) || !rows.knows(to)) {
             return BAD;
         }
         if (yard.men == 0) {
             return STATE;
         }
-        if (!rows.holds(r)) {
-            return found(NOTHING);
+        return rows.holds(r) ? FINE : found(NOTHING);
+    }
+
+    private int refusedAim(int r, int to) {
+        int refused = refusedWithMen(r, to);
+        if (refused != FINE) {
+            return refused;
         }
         if (rows.size(r) != yard.men) {
             return found(SIZE);
@@ -747,14 +734,9 @@ public final class ChainedMen {
     }
 
     private int refusedWants(int r, int to) {
-        if (!rows.knows(r) || !rows.knows(to)) {
-            return BAD;
-        }
-        if (yard.men == 0) {
-            return STATE;
-        }
-        if (!rows.holds(r)) {
-            return found(NOTHING);
+        int refused = refusedWithMen(r, to);
+        if (refused != FINE) {
+            return refused;
         }
         if (rows.size(r) > MOST_WANTS) {
             return found(SIZE);
@@ -1442,7 +1424,7 @@ public final class ChainedMen {
 
     /** What a STEP does, by the YARD, the WATER and the OPEN CHAINS. */
     private static final class Rules {
-        Yard yard;
+        private Yard yard;
         private int water;
         private int open;
 
@@ -1671,8 +1653,8 @@ public final class ChainedMen {
             }
             int able = 0;
             for (int w = 0; w < many; w++) {
-                int place = (left & hope) >> w & 1;
-                place = place == 0 ? NONE : search.nearest(stand, men[w], cells[w]);
+                boolean hoped = ((left & hope) >> w & 1) == 1;
+                int place = hoped ? search.nearest(stand, men[w], cells[w]) : NONE;
                 if (place != NONE) {
                     able |= 1 << w;
                     thens[level * MOST_WANTS + w] = search.stand(place);

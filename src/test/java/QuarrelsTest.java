@@ -50,6 +50,7 @@ public final class QuarrelsTest {
         easter("m=r", 0, new int[] {0});
         easter("mm=r1", 0, new int[] {0, 1});
         easter("mm=r1", 2, new int[] {0, 1}, 1, 10);
+        easter("mm=w1", 8, new int[] {0, 1}, 1, 1, 1, 1, 1, 10, 1, 1);
         easter("mmm=w11", 0, new int[] {0, 1, 2});
         easter("mmm=w11", 0, new int[] {0, 2, 1}, 1);
         easter("mmm=w11", 0, new int[] {0, 2, 1}, 10, 1, 1);

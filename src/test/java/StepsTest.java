@@ -193,5 +193,45 @@ public final class StepsTest {
         due.is("keep over an older one", x.keep(2), 0);
         due.is("on that", x.on(2), 0);
         due.tells("closed there", x, x.chain(0, 3), 0);
+        keptWhole();
+        rulesOfKept();
+    }
+
+    private static void keptWhole() {
+        ChainedMen x = Due.yard("m.m./....=w9");
+        x.step(0, 1);
+        x.step(1, 2);
+        x.open(0, 1);
+        x.keep(1);
+        long then = x.digest();
+        x.undo(0);
+        x.step(0, 2);
+        x.step(1, 1);
+        x.step(0, 1);
+        x.open(0, 0);
+        x.on(1);
+        due.is("all is as it was kept", x.digest(), then);
+        due.is("the last step is undone", x.undo(1), 1);
+        due.is("as it was ahead of it", x.who(2), 1);
+        due.is("the first, too", x.undo(0), 1);
+        due.is("as it was at first", x.who(0), 0);
+        x.on(1);
+        due.is("as often as wanted", x.digest(), then);
+    }
+
+    private static void rulesOfKept() {
+        ChainedMen x = Due.yard("m.m./....=w2");
+        x.keep(0);
+        x.tide(1);
+        x.open(0, 1);
+        x.keep(1);
+        x.on(0);
+        due.is("no water, chained", x.can(0), 2);
+        due.is("no water, chained, the other", x.can(1), 8);
+        due.is("to how many", x.reach() < 56 ? 1 : 0, 1);
+        x.on(1);
+        due.is("water, not chained", x.can(1), 2 + 8);
+        due.is("to how many then", x.reach(), 6);
+        due.is("in the first line", x.where(0), 7);
     }
 }

@@ -174,13 +174,14 @@ public final class ToldTest {
         x.step(0, 0);
         x.open(0, 1);
         x.quarrel(1, 0);
+        x.quarrel(0, 1);
         x.tide(1);
-        long want = mixed(2, 4, 2, 1, 1, 0, 1, 2, 1, 1,
+        long want = mixed(2, 4, 2, 1, 1, 0, 1, 2, 2, 1,
             1,
             0, 1, 0, 0,
             0, 0, 0, 2, 1, 3, 0, 0,
             3, 4, 2, 1,
-            1, 0,
+            1, 0, 0, 1,
             2, 0,
             -1, 1, -1,
             -1, 2, 0, -5, -1, -1, -1, -1,

@@ -35,6 +35,11 @@ public final class YardTest {
         fault("\u00e9=w", 0);
         fault("M=w", 0);
         fault(". .=w", 1);
+        fault(".w", 1);
+        fault("r", 0);
+        fault("....r", 4);
+        fault("../..w", 5);
+        fault("mm../mmmw1", 7);
         fault(".....=w", 4);
         fault("../...=w", 5);
         fault("../.=w", 4);
@@ -127,6 +132,17 @@ public final class YardTest {
         due.is("its cells", x.count(1), 2);
         x.text(1, 0);
         due.is("the yard stays without its text", x.count(1), 2);
+        ChainedMen wall = Due.yard("m#=w");
+        due.is("a wall", wall.can(0), 0);
+        Due.write(wall, 0, "m.=w");
+        wall.yard(0);
+        due.is("no wall is left of the yard before", wall.can(0), 2);
+        ChainedMen four = Due.yard("tsam=r9999");
+        Due.write(four, 2, "mm=w1");
+        four.yard(2);
+        due.tells("no kind is left", four, four.man(0, 0), 0);
+        due.tells("no chain is left", four, four.man(0, 2), 1);
+        due.tells("no reach is left", four, four.chain(0, 1), 1);
     }
 
     private static void men() {
@@ -214,6 +230,10 @@ public final class YardTest {
         ChainedMen d = Due.yard("td=w9");
         due.is("a dead one does not count as asleep", d.mark(0, 1), 0);
         due.is("a dead one's strong one", d.mark(1, 2), 1);
+        ChainedMen two = Due.yard("dm.m=w19");
+        due.is("3 is farther than 2", two.mark(0, 4), 1);
+        two = Due.yard("dmm=w11");
+        due.is("2 is not farther than 2", two.mark(0, 4), 0);
         ChainedMen s = Due.yard("msm=w29");
         due.is("the least of two", s.mark(1, 5), 1);
     }
