@@ -72,8 +72,9 @@ public final class RowsEdgesTest {
         }
         is("findings(1), the 512th call", x.findings(1), 511);
         ChainedMen y = Edge.made(Edge.yardOf("m.=w"));
-        for (int n = y.count(0) + y.count(1); n < 500; n++) {
-            is("step and undo " + n, n % 2 == 0 ? y.undo(0) : y.step(0, 1), 1);
+        for (int n = 0; n < 253; n++) {
+            is("step, time " + n, y.step(0, 1), 1);
+            is("undo, time " + n, y.undo(0), 1);
         }
     }
 
