@@ -476,8 +476,8 @@ public final class ChainedMen {
             }
         }
         int torn = 0;
-        for (int p = 0; p < size; p += yard.men) {
-            torn |= yard.tooFar(standFrom(r, p), now.open);
+        for (int n = 0; n < size / yard.men; n++) {
+            torn |= yard.tooFar(standFrom(r, n * yard.men), now.open);
         }
         told = torn == 0 ? 1 : 0;
         return couldBeFiled(torn);

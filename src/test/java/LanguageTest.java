@@ -8,7 +8,9 @@ import java.nio.file.Path;
 import java.util.ArrayList;
 import java.util.Arrays;
 import java.util.List;
+import java.util.Map;
 import java.util.Set;
+import java.util.TreeMap;
 import java.util.TreeSet;
 import java.util.regex.Matcher;
 import java.util.regex.Pattern;
@@ -136,8 +138,9 @@ public final class LanguageTest {
         methods(code);
     }
 
-    /** Methods are some sixty lines at most. */
+    /** Methods are some sixty lines at most, and their calls go at most eight deep. */
     private static void methods(String code) {
+        Map<String, String> bodies = new TreeMap<>();
         String[] lines = code.split("\n", -1);
         int begun = -1;
         String indent = "";
@@ -148,9 +151,41 @@ public final class LanguageTest {
                 indent = m.group(1);
             } else if (begun >= 0 && lines[n].equals(indent + "}")) {
                 no("too long: " + lines[begun].trim(), n - begun > 60);
+                String name = lines[begun].substring(0, lines[begun].indexOf('(')).replaceAll(".*\\W", "");
+                bodies.merge(name, String.join("\n", Arrays.copyOfRange(lines, begun + 1, n)), String::concat);
                 begun = -1;
             }
         }
         no("a method without an end", begun >= 0);
+        no("calls that go too deep: " + deepest(bodies), deepest(bodies) > 8);
+    }
+
+    /** Methods are told apart by name alone, so this is never less than it is. */
+    private static int deepest(Map<String, String> bodies) {
+        int deepest = 0;
+        Map<String, Integer> known = new TreeMap<>();
+        for (String name : bodies.keySet()) {
+            deepest = Math.max(deepest, depth(name, bodies, known, new TreeSet<>()));
+        }
+        return deepest;
+    }
+
+    private static int depth(String name, Map<String, String> bodies, Map<String, Integer> known, Set<String> open) {
+        if (known.containsKey(name)) {
+            return known.get(name);
+        }
+        open.add(name);
+        int below = 0;
+        Matcher calls = Pattern.compile("\\b(\\w+)\\(").matcher(bodies.get(name));
+        while (calls.find()) {
+            String called = calls.group(1);
+            no("recursion in " + called, open.contains(called) && !(called.equals(name) && name.equals("arrange")));
+            if (bodies.containsKey(called) && !open.contains(called)) {
+                below = Math.max(below, depth(called, bodies, known, open));
+            }
+        }
+        open.remove(name);
+        known.put(name, below + 1);
+        return below + 1;
     }
 }
